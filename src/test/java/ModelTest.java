@@ -126,21 +126,11 @@ final class ModelTest {
     private void ask(int question) {
         switch (question) {
             case 0 -> due("size()", index.size(), terms.size());
-            case 1 -> due("before()", index.before(), (int) terms.stream().filter(t -> t.compareTo(key) < 0).count());
+            case 1 -> due("before()", index.before(), Plain.before(terms, key));
             case 2 -> due("held()", index.held() ? 1 : 0, terms.contains(key) ? 1 : 0);
-            case 3 -> due("beginning()", index.beginning(), (int) terms.stream().filter(t -> t.startsWith(key)).count());
-            default -> due("common()", index.common(), longestShared());
+            case 3 -> due("beginning()", index.beginning(), Plain.beginning(terms, key));
+            default -> due("common()", index.common(), Plain.common(terms, key));
         }
-    }
-
-    private int longestShared() {
-        for (int length = key.length(); length >= 0; length--) {
-            String start = key.substring(0, length);
-            if (terms.stream().anyMatch(t -> t.startsWith(start))) {
-                return length;
-            }
-        }
-        return -1;
     }
 
     private void due(String what, int got, int want) {
