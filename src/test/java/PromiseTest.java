@@ -27,6 +27,7 @@ final class PromiseTest {
         beginningCounts();
         commonCounts();
         queriesChangeNothing();
+        theExampleOfTheReadme();
         check.end();
     }
 
@@ -499,5 +500,28 @@ final class PromiseTest {
             check.keyIs(x, "Terms: key after queries", letters);
             check.termsAre(x, "Terms: terms after queries", "12", "123", "4");
         }
+    }
+
+    // What README.md says of its example must stay true.
+
+    private static void theExampleOfTheReadme() {
+        TermIndex index = new TermIndex();
+        check.due("README: type(1)", index.type(1), 1);
+        check.due("README: type(2)", index.type(2), 2);
+        check.due("README: insert of 1 2", index.insert(), 0);
+        check.due("README: type(3)", index.type(3), 3);
+        check.due("README: insert of 1 2 3", index.insert(), 1);
+        check.due("README: second insert of 1 2 3", index.insert(), -1);
+        check.due("README: back", index.back(), 3);
+        check.due("README: held", index.held(), true);
+        check.due("README: beginning", index.beginning(), 2);
+        check.due("README: before", index.before(), 0);
+        check.due("README: load(1)", index.load(1), 3);
+        check.due("README: letter(2)", index.letter(2), 3);
+        check.due("README: delete", index.delete(), 1);
+        check.due("README: common", index.common(), 2);
+        check.due("README: size", index.size(), 1);
+        index.erase();
+        check.keyIs(index, "README: key after erase", "");
     }
 }
